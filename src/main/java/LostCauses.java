@@ -862,32 +862,26 @@ public final class LostCauses {
             return placeOf(clerkNames, clerks, name);
         }
 
-        /** Adds a CAUSE whose numbers are told after its NAME; false: there are as many as may be. */
-        boolean addCause(long name) {
-            if (causes >= MOST_CAUSES) {
-                return false;
+        /** Adds a CAUSE whose numbers are told after its NAME. */
+        void addCause(long name) {
+            if (causes < MOST_CAUSES) {
+                causeNames[causes] = name;
+                causes++;
             }
-            causeNames[causes] = name;
-            causes++;
-            return true;
         }
 
-        boolean addDeed(long name) {
-            if (deeds >= MOST_DEEDS) {
-                return false;
+        void addDeed(long name) {
+            if (deeds < MOST_DEEDS) {
+                deedNames[deeds] = name;
+                deeds++;
             }
-            deedNames[deeds] = name;
-            deeds++;
-            return true;
         }
 
-        boolean addClerk(long name) {
-            if (clerks >= MOST_CLERKS) {
-                return false;
+        void addClerk(long name) {
+            if (clerks < MOST_CLERKS) {
+                clerkNames[clerks] = name;
+                clerks++;
             }
-            clerkNames[clerks] = name;
-            clerks++;
-            return true;
         }
 
         void tellLastCause(int what, int number) {
@@ -1517,7 +1511,8 @@ public final class LostCauses {
         /** In how many orders a set can be done, by the DEED that is the last of it. */
         private int sumOfOrders(int set) {
             int sum = set == 0 ? 1 : 0;
-            for (int bit = 1; bit <= set; bit <<= 1) {
+            for (int d = 0; d < MOST_DEEDS; d++) {
+                int bit = 1 << d;
                 if ((set & bit) != 0) {
                     sum += orders[set ^ bit];
                 }

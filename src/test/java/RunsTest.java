@@ -74,6 +74,31 @@ public final class RunsTest {
         Check.due("1", y.school(1, 4), 4);
         Check.due("2", y.school(2, 4), 4 + 50 * 333 / 1000);
         Check.due("best", y.best(4), 0);
+        String office = "line 1 2;coin 9;cause a 1 4 50 20;deed d 1 0 1;clerk k 1;";
+        LostCauses z = Check.office(office);
+        Check.due("1 and 2 alike", z.school(1, 2) - z.school(2, 2), 0);
+        Check.due("the first of them", z.best(2), 1);
+        LostCauses v = Check.office("line 1 2;coin 4;cause a 1 4 50 20;deed d 2 0 5;deed e 1 0 1;clerk k 1;");
+        Check.due("0", v.school(0, 2), 24);
+        Check.due("1 waits for d", v.school(1, 2), 4);
+        Check.due("2 does e", v.school(2, 2), 36);
+        Check.due("best", v.best(2), 2);
+    }
+
+    /** A DISGRACE may come in the twentieth WEEK, and not in the next one. */
+    private static void risksOfTwentyWeeks() {
+        LostCauses x = Check.office("line 1 2;coin 99;cause a 1 4 50 20;deed d 9 0 5;clerk k 1;");
+        int last = 0;
+        int behind = 0;
+        for (int seed = 0; seed < 400; seed++) {
+            x.drawn(21, seed);
+            int week = x.now(5);
+            x.undo();
+            last += week == 19 ? 1 : 0;
+            behind += week == 20 ? 1 : 0;
+            Check.due("risk of seed " + seed, x.risk(1, seed), week >= 0 && week < 20 ? 1 : 0);
+        }
+        Check.due("both come", last > 0 && behind > 0, true);
     }
 
     private static int flags(LostCauses x, int c, int... bytes) {
@@ -115,30 +140,23 @@ public final class RunsTest {
 
     private static void draws() {
         // The draws are worked out here by themselves, and each is lived by the calls of the face.
-        LostCauses x = Check.office(DeskTest.OFFICE);
-        LostCauses y = Check.office(DeskTest.OFFICE);
+        String office = "line 1 2;coin 60;cause a 1 4 50 20;cause b 1 9 30 20;cause c 2 9 20 20;cause d 0 9 20 20;"
+            + "deed e 1 0 1;deed f 0 1 1;deed g 2 3 2;clerk k 3;clerk l 9;";
+        LostCauses x = Check.office(office);
+        LostCauses y = Check.office(office);
         for (int run = 0; run < 20; run++) {
             int seed = run * 7919 - 50000;
             Check.due("drawn", x.drawn(7, seed), 7);
-            int s = seed;
-            for (int week = 0; week < 7; week++) {
-                for (int k = 0; k < 2; k++) {
-                    s = s * 1103515245 + 12345;
-                    int choice = (s >>> 8) % 3;
-                    if (choice < 2) {
-                        s = s * 1103515245 + 12345;
-                    }
-                    int what = (s >>> 8) % 3;
-                    int why = choice == 0 ? y.take(k, what) : choice == 1 ? y.act(k, what) : y.drop(k);
-                    Check.due("a draw that is none", why == -1, false);
-                }
-                y.weeks(1);
-            }
+            liveDraws(y, seed);
             for (int what = 0; what < 7; what++) {
                 Check.due("now(" + what + ") behind draws", x.now(what), y.now(what));
+                Check.due("cause 0 behind draws", x.cause(0, what), y.cause(0, what));
+                Check.due("cause 3 behind draws", x.cause(3, what), y.cause(3, what));
+                Check.due("clerk 1 behind draws", x.clerk(1, what), y.clerk(1, what));
             }
         }
         Check.due("WEEK", x.now(0), 140);
+        Check.due("some were dropped", x.now(6) > 3, true);
         Check.due("drawn", x.drawn(50, 1), 50);
         Check.due("as many as are left", x.drawn(50, 1), 10);
         Check.due("none is left", x.drawn(1, 1), 0);
@@ -149,6 +167,23 @@ public final class RunsTest {
             Check.due("not as told " + i, got[i], -1);
         }
         Check.due("without CAUSES and DEEDS", Check.office("clerk k 1;").drawn(50, 3), 50);
+    }
+
+    private static void liveDraws(LostCauses y, int seed) {
+        int s = seed;
+        for (int week = 0; week < 7; week++) {
+            for (int k = 0; k < 2; k++) {
+                s = s * 1103515245 + 12345;
+                int choice = (s >>> 8) % 3;
+                if (choice < 2) {
+                    s = s * 1103515245 + 12345;
+                }
+                int draw = s >>> 8;
+                int why = choice == 0 ? y.take(k, draw % 4) : choice == 1 ? y.act(k, draw % 3) : y.drop(k);
+                Check.due("a draw that is none", why == -1, false);
+            }
+            y.weeks(1);
+        }
     }
 
     private static void risks() {
@@ -164,7 +199,9 @@ public final class RunsTest {
         }
         Check.due("risk, the seeds wrapping", x.risk(20, Integer.MAX_VALUE - 9), due);
         Check.due("some, not all", due > 0 && due < 20, true);
+        Check.due("risk of one seed", x.risk(1, Integer.MAX_VALUE - 9) + x.risk(19, Integer.MAX_VALUE - 8), due);
         Check.due("nothing is done", x.now(0), 3);
+        risksOfTwentyWeeks();
         int[] got = {x.risk(0, 1), x.risk(41, 1), x.risk(-1, 1), Check.office("cause a 1 9 9 9;").risk(1, 1)};
         for (int i = 0; i < got.length; i++) {
             Check.due("not as told " + i, got[i], -1);

@@ -79,6 +79,17 @@ public final class TextsTest {
         faulty("cause c 1 1 1;", 13, 1);
         faulty("rumour number 1 1;", 7, 1);
         faulty("rumour 1 1 1;", 7, 1);
+        faulty("line;", 4, 1);
+        faulty("line 1;", 6, 1);
+        faulty("cause;", 5, 1);
+        faulty("cause c;", 7, 1);
+        faulty("cause c 1 1 1;", 13, 1);
+        faulty("cause c 1 1 1 1;rumour;", 22, 1);
+        faulty("cause c 1 1 1 1;rumour c;", 24, 1);
+        faulty("deed;", 4, 1);
+        faulty("deed d;", 6, 1);
+        faulty("clerk;", 5, 1);
+        faulty("clerk k;", 7, 1);
         for (String word : Model.RESERVED) {
             faulty("deed " + word + " 1 1 1;", 5, 1);
         }

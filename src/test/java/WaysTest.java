@@ -210,6 +210,15 @@ public final class WaysTest {
         y.take(0, 0);
         y.act(0, 2);
         Check.due("behind the third none but none", y.parts(0), -1);
+        LostCauses w = Check.office("line 1 2;cause a 0 4 9 9;rumour a 1 4;deed d 3 0 0;deed e 0 3 0;deed f 2 1 0;clerk k 9;");
+        Check.due("d alone", w.parts(0), 1);
+        w.take(0, 0);
+        w.act(0, 1);
+        Check.due("d is not enough, d and f are too", w.parts(0), -1);
+        LostCauses v = Check.office("line 1 2;cause a 0 4 9 9;rumour a 1 4;deed d 3 0 0;deed e 0 2 0;deed f 2 0 0;clerk k 9;");
+        v.take(0, 0);
+        v.act(0, 1);
+        Check.due("with e that was done: d and f", v.parts(0), 5);
         LostCauses z = Check.office("line 1 2;cause a 3 9 9 9;rumour a 3 9;deed d 9 0 0;");
         Check.due("a rumour that is so", z.parts(0), -1);
     }

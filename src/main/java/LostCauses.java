@@ -262,7 +262,7 @@ public final class LostCauses {
     }
 
     public int matched(int k) {
-        return plan.hasClerk(k) ? matching.causeOf(k) : NONE;
+        return matching.causeOf(k);
     }
 
     public int rests(int k) {
@@ -1553,8 +1553,9 @@ public final class LostCauses {
             this.ways = ways;
         }
 
+        /** By the CLERKS of the latest match, who need not be those of the OFFICE of now. */
         int causeOf(int k) {
-            return chosen[k];
+            return k >= 0 && k < chosen.length ? chosen[k] : NONE;
         }
 
         int matchAll() {

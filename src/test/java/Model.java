@@ -808,7 +808,7 @@ final class Model {
     }
 
     int matched(int k) {
-        return isClerk(k) && k < matched.length ? matched[k] : -1;
+        return k >= 0 && k < matched.length ? matched[k] : -1;
     }
 
     int rests(int k) {

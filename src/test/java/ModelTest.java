@@ -153,6 +153,7 @@ public final class ModelTest {
             same("now(" + i + ")", () -> real.now(what), () -> model.now(what));
             same("count(" + i + ")", () -> real.count(what), () -> model.count(what));
             same("booked(" + i + ")", () -> real.booked(what), () -> model.booked(what));
+            same("matched(" + i + ")", () -> real.matched(what), () -> model.matched(what));
         }
         same("fault()", real::fault, model::fault);
         same("tried()", real::tried, model::tried);

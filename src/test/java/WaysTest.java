@@ -10,6 +10,7 @@ public final class WaysTest {
         ways();
         values();
         match();
+        matchedStays();
         matchOfLike();
         rests();
         restsOfBadValues();
@@ -144,6 +145,30 @@ public final class WaysTest {
         Check.tape(x, "cause a 0 9 9 9;clerk k 1;clerk l 1;");
         x.office();
         Check.due("it stays with a new OFFICE", x.matched(1), 0);
+    }
+
+    private static void matchedStays() {
+        LostCauses x = Check.office(OFFICE);
+        x.image(1);
+        x.match();
+        Check.due("an OFFICE of no LINES", x.office(), 0);
+        Check.due("no CLERKS now, the match stays", x.matched(0), 2);
+        Check.due("the other CLERK's too", x.matched(1), 0);
+        Check.due("nobody told of", x.matched(2), -1);
+        Check.due("no such one", x.matched(5), -1);
+        Check.due("no such one", x.matched(Integer.MIN_VALUE), -1);
+        Check.due("no such one", x.matched(Integer.MAX_VALUE), -1);
+        x.image(0);
+        x.restore(1);
+        Check.due("it stays with restore()", x.matched(0), 2);
+        x.restore(0);
+        Check.due("of an OFFICE with no CLERKS too", x.matched(1), 0);
+        Check.due("a match of no CLERKS", x.match(), 0);
+        Check.due("is the latest then", x.matched(0), -1);
+        Check.due("for all", x.matched(1), -1);
+        Check.tape(x, "clerk k");
+        Check.due("an OFFICE with a FAULT", x.office(), -8);
+        Check.due("changes nothing", x.matched(0), -1);
     }
 
     private static void matchOfLike() {

@@ -11,14 +11,32 @@ final class Check {
     static final long THROWN = Long.MIN_VALUE;
 
     private static int wrong = 0;
+    private static String words = "";
 
     private Check() {
+    }
+
+    /** Tells the document's words that the answers from here on are held against. */
+    static void of(String theWords) {
+        words = "[" + theWords + "] ";
     }
 
     static void due(String what, long got, long want) {
         if (got != want) {
             wrong++;
-            System.out.println(what + " answered " + got + ", due is " + want);
+            System.out.println(words + what + " answered " + got + ", due is " + want);
+        }
+    }
+
+    static void same(String what, String got, String want) {
+        if (!got.equals(want)) {
+            wrong++;
+            int from = 0;
+            while (from < Math.min(got.length(), want.length()) && got.charAt(from) == want.charAt(from)) {
+                from++;
+            }
+            from = Math.max(0, from - 40);
+            System.out.println(words + what + ": .." + got.substring(from) + ", due is .." + want.substring(from));
         }
     }
 
@@ -37,6 +55,30 @@ final class Check {
         } catch (NoSuchElementException e) {
             return THROWN;
         }
+    }
+
+    /** All that can be asked without changing it, but for what can be undone: some 130 calls. */
+    static String all(LostCauses x) {
+        StringBuilder text = new StringBuilder();
+        for (int what = 0; what < 7; what++) {
+            text.append(" now ").append(x.now(what)).append(" count ").append(x.count(what));
+        }
+        for (int i = 0; i < 6; i++) {
+            int c = i;
+            text.append(" said ").append(x.said(i)).append(" matched ").append(x.matched(i));
+            for (int j = 0; j < 9; j++) {
+                int what = j;
+                long answer = threw(() -> x.cause(c, what));
+                text.append(answer == THROWN ? " throws" : " " + answer);
+            }
+            for (int what = 0; what < 6; what++) {
+                text.append(' ').append(x.clerk(i, what));
+            }
+        }
+        for (int what = 0; what < 4; what++) {
+            text.append(" booked ").append(x.booked(what));
+        }
+        return text.append(" fault ").append(x.fault()).append(" tried ").append(x.tried()).toString();
     }
 
     /** Puts a text on a tape that is empty. */

@@ -21,6 +21,8 @@ public final class DeskEdgesTest {
         noSuchDeeds();
         noSuchClerks();
         anotherNow();
+        whoHasACause();
+        whatADeedDoes();
         takeOfNoSuchOnes();
         takeBySomebodyBusy();
         takeOfOneNotOpen();
@@ -228,6 +230,41 @@ public final class DeskEdgesTest {
         for (int what : others) {
             Check.due("now(" + what + ")", x.now(what), -1);
         }
+    }
+
+    private static void whoHasACause() {
+        Check.of("6: 5 the CLERK who has it (NONE), 6 DEEDS done for it, as bits");
+        LostCauses x = Check.office(DESK);
+        for (int c = 0; c < 4; c++) {
+            Check.due("nobody has " + c, x.cause(c, 5), -1);
+            Check.due("no DEEDS for " + c, x.cause(c, 6), 0);
+        }
+        x.take(0, 3);
+        x.take(2, 0);
+        Check.due("the first CLERK", x.cause(3, 5), 0);
+        Check.due("the last CLERK", x.cause(0, 5), 2);
+        x.drop(0);
+        x.drop(2);
+        Check.due("dropped", x.cause(3, 5), -1);
+        Check.due("dropped", x.cause(0, 5), -1);
+    }
+
+    private static void whatADeedDoes() {
+        Check.of("FOR is UP more, AGAINST is DOWN more, the coin COST less, his zeal 1 less");
+        LostCauses x = Check.office("line 98 99;coin 20;cause a 99 99 9 9;deed d 20 19 18;deed e 0 0 0;clerk k 9;");
+        x.take(0, 0);
+        x.act(0, 0);
+        Check.due("FOR", x.cause(0, 0), 119);
+        Check.due("AGAINST", x.cause(0, 1), 118);
+        Check.due("coin", x.now(1), 2);
+        Check.due("zeal", x.clerk(0, 0), 8);
+        Check.due("DEEDS", x.now(4), 1);
+        x.weeks(1);
+        x.act(0, 1);
+        Check.due("FOR, by nothing", x.cause(0, 0), 119);
+        Check.due("AGAINST, by nothing", x.cause(0, 1), 118);
+        Check.due("DEEDS, by nothing", x.now(4), 2);
+        Check.due("zeal, by nothing", x.clerk(0, 0), 7);
     }
 
     private static void takeOfNoSuchOnes() {

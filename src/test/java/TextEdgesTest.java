@@ -552,7 +552,7 @@ public final class TextEdgesTest {
 
     private static void aNewOffice() {
         Check.of("A new OFFICE: WEEK 0, all open, no SENTENCE; nothing can be undone (what other calls told last stays)");
-        String office = "line 1 2;coin 9;cause c 1 9 9 9;rumour c 1 2;deed d 20 0 1;clerk k 3;";
+        String office = "line 3 7;coin 9;cause c 1 9 9 9;rumour c 1 2;deed d 20 0 1;clerk k 3;";
         LostCauses x = Check.office(office);
         Check.sentence(x, "open");
         x.match();
@@ -568,7 +568,7 @@ public final class TextEdgesTest {
         x.office();
         String fresh = Check.all(Check.office(office));
         String stays = fresh.replace(" matched -1 1 9", " matched 0 1 9").replace(" tried -1", " tried 0")
-            .replace(" booked -1 booked -1 booked -1 booked -1", " booked 21 booked 2 booked 10 booked 0");
+            .replace(" booked -1 booked -1 booked -1 booked -1", " booked 21 booked 2 booked 11 booked 0");
         Check.same("as a new one, but for what was told last", Check.all(x), stays);
         Check.due("nothing can be undone", x.undo(), -1);
         Check.due("no SENTENCE", x.said(-1), -1);

@@ -432,6 +432,9 @@ public final class WaysEdgesTest {
             }
         }
         Check.due("one more", x.rests(30), -1);
+        LostCauses y = Check.office(text.toString().replace("line 1 2", "line 98 99") + "clerk k 9;");
+        Check.due("by a line that most are below", y.rests(-1), 30);
+        Check.due("the first CLERK, one of six CAUSES", y.match(), 5);
         LostCauses z = Check.office(text.toString().replace("50", "4") + "clerk k 9;");
         Check.due("of VALUE 0 all rest", z.rests(-1), 36);
         Check.due("the first", z.rests(0), 0);
@@ -486,6 +489,7 @@ public final class WaysEdgesTest {
         Check.of("24: 0: they part now");
         Check.due("the rumour is not SAFE", Check.office("line 1 2;cause a 8 9 9 9;rumour a 9 9;").parts(0), 0);
         Check.due("it is not SAFE", Check.office("line 1 2;cause a 9 9 9 9;rumour a 8 9;deed d 1 0 0;").parts(0), 0);
+        Check.due("behind DEEDS too", Check.office("line 1 2;cause a 8 9 9 9;rumour a 9 9;deed d 0 0 0;").parts(0), 0);
     }
 
     private static void partsByTheFewest() {
@@ -535,6 +539,15 @@ public final class WaysEdgesTest {
         x.weeks(1);
         x.act(0, 2);
         Check.due("no more", x.parts(0), -1);
+        LostCauses y = Check.office("line 1 2;cause a 9 19 9 9;rumour a 19 10;deed d 0 5 0;deed e 0 5 0;deed f 10 0 0;"
+            + "clerk k 9;");
+        Check.due("now", y.parts(0), 0);
+        y.take(0, 0);
+        y.act(0, 0);
+        Check.due("SAFE, and 19 by 15", y.parts(0), 0);
+        y.weeks(1);
+        y.act(0, 1);
+        Check.due("SAFE, and 19 by 20: f parts them", y.parts(0), 4);
     }
 
     private static void plotOfNone() {

@@ -471,6 +471,8 @@ public final class WeekEdgesTest {
         Check.due("the last of six", Check.office("line 1 2;cause a 1 99 9 9;cause b 1 99 9 9;cause c 99 1 9 9;"
             + "cause d 1 99 9 9;cause e 1 99 9 9;cause f 2 99 9 9;").saddest(), 5);
         Check.due("NEARNESS 0", Check.office("cause a 0 99 9 9;").saddest(), 0);
+        Check.due("not one beyond six", Check.office("line 98 99;cause a 1 99 9 9;cause b 1 99 9 9;cause c 1 99 9 9;"
+            + "cause d 1 99 9 9;cause e 1 99 9 9;cause f 2 99 9 9;clerk k 9;").saddest(), 5);
     }
 
     private static void saddestOfStates() {
